@@ -959,36 +959,25 @@ public final class SnorePlay {
             stop = start;
             if (start >= length) {
                 kind = END;
-            } else if (isLetter(text[stop])) {
+                return;
+            }
+            byte sign = text[start];
+            if (sign >= 'a' && sign <= 'z') {
                 kind = WORD;
-                while (stop < length && isLetter(text[stop])) {
+                while (stop < length && text[stop] >= 'a' && text[stop] <= 'z') {
                     stop++;
                 }
-            } else if (isDigit(text[stop])) {
-                takeDigits();
-            } else {
-                kind = SIGNS.indexOf((char) (text[stop] & 255)) >= 0 ? SIGN : WRONG;
-                stop++;
-            }
-        }
-
-        private void takeDigits() {
-            number = 0;
-            while (stop < length && isDigit(text[stop])) {
-                if (stop - start < 3) {
-                    number = number * 10 + text[stop] - '0';
+            } else if (sign >= '0' && sign <= '9') {
+                number = 0;
+                while (stop < length && text[stop] >= '0' && text[stop] <= '9') {
+                    number = stop - start < 3 ? number * 10 + text[stop] - '0' : number;
+                    stop++;
                 }
+                kind = stop - start > 3 ? WRONG : NUMBER;
+            } else {
+                kind = SIGNS.indexOf((char) (sign & 255)) >= 0 ? SIGN : WRONG;
                 stop++;
             }
-            kind = stop - start > 3 ? WRONG : NUMBER;
-        }
-
-        private static boolean isLetter(byte sign) {
-            return sign >= 'a' && sign <= 'z';
-        }
-
-        private static boolean isDigit(byte sign) {
-            return sign >= '0' && sign <= '9';
         }
     }
 
@@ -1106,21 +1095,23 @@ public final class SnorePlay {
         }
 
         private void readSum(int within) {
-            readTerm(within);
-            for (int i = 0; i < MOST_TEXT && tokens.isFaultless() && (tokens.is("+") || tokens.is("-")); i++) {
-                int code = tokens.is("+") ? PLUS : MINUS;
-                tokens.advance();
-                readTerm(within);
-                append(code);
-            }
-        }
-
-        private void readTerm(int within) {
-            readAtom(within);
-            for (int i = 0; i < MOST_TEXT && tokens.isFaultless() && tokens.is("*"); i++) {
-                tokens.advance();
+            int adding = 0;
+            boolean more = true;
+            for (int i = 0; i < MOST_TEXT && more; i++) {
                 readAtom(within);
-                append(TIMES);
+                for (int j = 0; j < MOST_TEXT && tokens.isFaultless() && tokens.is("*"); j++) {
+                    tokens.advance();
+                    readAtom(within);
+                    append(TIMES);
+                }
+                if (adding != 0) {
+                    append(adding);
+                }
+                adding = tokens.is("+") ? PLUS : tokens.is("-") ? MINUS : 0;
+                more = tokens.isFaultless() && adding != 0;
+                if (more) {
+                    tokens.advance();
+                }
             }
         }
 
@@ -1429,28 +1420,33 @@ public final class SnorePlay {
         }
 
         private static int combined(int code, long a, long b) {
+            long made;
             switch (code) {
                 case Reader.PLUS:
-                    return bounded(a + b);
+                    made = a + b;
+                    break;
                 case Reader.MINUS:
-                    return bounded(a - b);
+                    made = a - b;
+                    break;
                 case Reader.TIMES:
-                    return bounded(a * b);
+                    made = a * b;
+                    break;
                 case Reader.EQUAL:
-                    return a == b ? 1 : 0;
+                    made = a == b ? 1 : 0;
+                    break;
                 case Reader.LESS:
-                    return a < b ? 1 : 0;
+                    made = a < b ? 1 : 0;
+                    break;
                 case Reader.MORE:
-                    return a > b ? 1 : 0;
+                    made = a > b ? 1 : 0;
+                    break;
                 case Reader.AND:
-                    return a != 0 && b != 0 ? 1 : 0;
+                    made = a != 0 && b != 0 ? 1 : 0;
+                    break;
                 default:
-                    return a != 0 || b != 0 ? 1 : 0;
+                    made = a != 0 || b != 0 ? 1 : 0;
             }
-        }
-
-        private static int bounded(long v) {
-            return v < -MOST_WORTH ? -MOST_WORTH : v > MOST_WORTH ? MOST_WORTH : (int) v;
+            return made < -MOST_WORTH ? -MOST_WORTH : made > MOST_WORTH ? MOST_WORTH : (int) made;
         }
 
         /** Leaves a play alone: in how many beats it ends, if within the limit; else NONE. */
@@ -1488,7 +1484,7 @@ public final class SnorePlay {
         // The nodes that some row comes to and from which the play goes on.
         final int[] reached = new int[PLAIN_NODES];
         int reachedCount;
-        private final boolean[] isReached = new boolean[PLAIN_NODES];
+        private final int[] reachedMarks = new int[PLAIN_NODES];
         // The play left alone: its nodes, how many beats they are, and the place to which the last comes back.
         final int[] path = new int[PLAIN_NODES + 1];
         private final int[] placeOnPath = new int[PLAIN_NODES];
@@ -1512,7 +1508,7 @@ public final class SnorePlay {
                 Arrays.fill(next, UNKNOWN);
             }
             now = play.node();
-            Arrays.fill(isReached, false);
+            Arrays.fill(reachedMarks, 0);
             reachedCount = 0;
             reach(now);
             for (int i = 0; i < reachedCount && i < PLAIN_NODES; i++) {
@@ -1526,8 +1522,8 @@ public final class SnorePlay {
         }
 
         private void reach(int node) {
-            if (goesOn(node) && !isReached[node]) {
-                isReached[node] = true;
+            if (goesOn(node) && reachedMarks[node] == 0) {
+                reachedMarks[node] = 1;
                 reached[reachedCount] = node;
                 reachedCount++;
             }
