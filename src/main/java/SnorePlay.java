@@ -1735,7 +1735,7 @@ public final class SnorePlay {
             return who;
         }
 
-        /** Within how many beats the first one forces the end; ranks are that if it, if the other one is next. */
+        /** Within how many beats the first one forces the end; ranks tell it by who wakes next, it or the other. */
         int forcedIn() {
             clear(rank, false);
             clear(otherRank, false);
