@@ -1,71 +1,5 @@
 /** Each promise of the document by itself: ordinary inputs, the edges that it names, and wrong inputs. */
-public final class PromisesTest {
-    static int wrong = 0;
-    static int asked = 0;
-    static String promise = "";
-
-    // Two who answer each other; by the dream of sleeper 0 the second snore is the sound that turns.
-    static final String PAIR = "house beds 2 sounds 2 acts 1;sleeper bed 0 dream 1;sleeper bed 1 dream 0;turns 1;";
-    // Sound 1 for ever: behind the first beat all comes round each two beats.
-    static final String ROUND = "house beds 2 sounds 3 acts 1;sleeper bed 0 dream 0;sleeper bed 1 dream 0;turns 2;says:1;";
-    // Three in a row; the sound is who snores; sleeper 2 turns it.
-    static final String NAMES = "house beds 3 sounds 3 acts 1;sleeper bed 0 dream 0;sleeper bed 1 dream 0;"
-        + "sleeper bed 2 dream 0;turns 2;says:who;";
-    // How far one may lie depends on the hush.
-    static final String HUSHED = "house beds 6 sounds 3 acts 4;sleeper bed 0 dream 1;sleeper bed 2 dream 1;"
-        + "sleeper bed 5 dream 1;turns 2;hush 1;answers : 10 - far - hush;";
-    // One alone: nobody is left to answer.
-    static final String ALONE = "house beds 1 sounds 1 acts 1;sleeper bed 0 dream 5;";
-
-    static void due(String call, long got, long want) {
-        asked++;
-        if (got != want) {
-            wrong++;
-            System.out.println("promise " + promise + ": " + call + " answered " + got + ", due is " + want);
-        }
-    }
-
-    static void feedText(SnorePlay x, String text) {
-        int[] v = new int[(text.length() + 19) / 20 * 5];
-        for (int i = 0; i < v.length * 4; i++) {
-            v[i / 4] = v[i / 4] << 8 | (i < text.length() ? text.charAt(i) & 255 : 32);
-        }
-        for (int i = 0; i < v.length; i += 5) {
-            x.feed(v[i], v[i + 1], v[i + 2], v[i + 3], v[i + 4]);
-        }
-    }
-
-    static int tell(SnorePlay x, String text) {
-        feedText(x, text);
-        return x.house(text.length());
-    }
-
-    static SnorePlay of(String text) {
-        SnorePlay x = new SnorePlay();
-        int lines = tell(x, text);
-        if (lines < 1) {
-            due("house of " + text, lines, 1);
-        }
-        return x;
-    }
-
-    static void lay(SnorePlay x, int tray, long... v) {
-        due("numbers", x.numbers(tray, 3, v.length), 0);
-        for (int i = 0; i < v.length; i++) {
-            due("write", x.write(tray, i, v[i]), v[i]);
-        }
-    }
-
-    static void faultOf(String text, int kind, int place) {
-        SnorePlay x = of(PAIR);
-        due("house of " + text, tell(x, text), -30 - kind);
-        due("fault(0) of " + text, x.fault(0), kind);
-        due("fault(1) of " + text, x.fault(1), place);
-        due("count(1) behind " + text, x.count(1), 2);
-        due("count(12) behind " + text, x.count(12), 4);
-        due("count(11) behind " + text, x.count(11), 0);
-    }
-
+public final class PromisesTest extends Asking {
     public static void main(String[] args) {
         houses();
         faults();
@@ -86,10 +20,7 @@ public final class PromisesTest {
         chances();
         traysAndImages();
         counts();
-        System.out.println(wrong == 0 ? asked + " answers as due" : wrong + " answers are not as due");
-        if (wrong != 0) {
-            System.exit(1);
-        }
+        finish();
     }
 
     static void houses() {
