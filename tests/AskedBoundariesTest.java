@@ -10,6 +10,10 @@ public final class AskedBoundariesTest extends Asking {
     static final String FADING = "house beds 2 sounds 6 acts 1;sleeper bed 0 dream 0;sleeper bed 1 dream 0;says:sound+1;"
         + "answers:3-sound;turns 0;";
 
+    // The one with the greatest number snores; 1 ends it, so that the last of all must be woken.
+    static final String GREATEST = "house beds 3 sounds 3 acts 1;sleeper bed 0 dream 0;sleeper bed 1 dream 0;sleeper bed 2 dream 0;"
+        + "turns 1;answers:who+1;says:who;";
+
     static SnorePlay ended() {
         SnorePlay x = of(PAIR);
         due("beats(2)", x.beats(2), 2);
@@ -197,6 +201,13 @@ public final class AskedBoundariesTest extends Asking {
         due("soonest(0)", x.soonest(0), 2);
         due("way(0, 0)", x.way(0, 0), 0);
         due("way(0, 1)", x.way(0, 1), 1);
+        // 2 ends each of two acts and can't snore twice: 2, then 1, then 2 with 0 woken.
+        SnorePlay twice = of(NAMES.replace("acts 1", "acts 2"));
+        due("soonest(0)", twice.soonest(0), 3);
+        due("way(0, 0)", twice.way(0, 0), 2);
+        due("way(0, 1)", twice.way(0, 1), 0);
+        due("way(0, 2)", twice.way(0, 2), 1);
+        due("way(0, 0)", of(GREATEST).way(0, 0), 3);
         sentence("21", "NONE: not so many, it can't be");
         due("way(0, 2)", x.way(0, 2), -1);
         due("way(0, MAX)", x.way(0, Integer.MAX_VALUE), -1);
@@ -307,6 +318,12 @@ public final class AskedBoundariesTest extends Asking {
             due("keeping(" + i + ")", x.keeping(i), 3);
             due("keeping(" + i + ")", of(ROUND).keeping(i), 0);
         }
+        // Behind 1, 2 would end it; behind 0, 1 answers.
+        x = of("house beds 3 sounds 3 acts 1;sleeper bed 0 dream 0;sleeper bed 1 dream 0;sleeper bed 2 dream 0;turns 2;says:who;"
+            + "answers:if who = 2 then if last = 1 then 9 else 1 end else 5 end;");
+        for (int i = 0; i < 100; i += 9) {
+            due("keeping(" + i + ")", x.keeping(i), i % 2 == 0 ? 0 : 3);
+        }
         sentence("24", "-3: i is below 0 or above 99; -5");
         due("keeping(100)", x.keeping(100), -3);
         due("keeping(0)", ended().keeping(0), -5);
@@ -328,6 +345,9 @@ public final class AskedBoundariesTest extends Asking {
         due("heardOf()", of("house beds 2 sounds 1 acts 1;sleeper bed 0 dream 0;sleeper bed 1 dream 0;").heardOf(), 2);
         due("heardOf()", of("house beds 2 sounds 1 acts 2;sleeper bed 0 dream 0;sleeper bed 1 dream 0;").heardOf(), 3);
         due("heardOf()", of("house beds 3 sounds 1 acts 1;sleeper bed 0 dream 0;sleeper bed 1 dream 0;sleeper bed 2 dream 0;").heardOf(), 6);
+        sentence("25", "by some ROW: who comes only if the last of all is woken, too");
+        due("heardOf()", of("house beds 3 sounds 1 acts 1;sleeper bed 0 dream 0;sleeper bed 1 dream 0;sleeper bed 2 dream 0;"
+            + "answers:who;").heardOf(), 6);
         sentence("25", "nobody");
         due("heardOf()", of(ALONE).heardOf(), 0);
         due("heardOf()", ended().heardOf(), 0);
@@ -404,16 +424,84 @@ public final class AskedBoundariesTest extends Asking {
         x.hush(1);
         due("placing(12)", x.placing(12), 3);
         sentence("26", "the last order can be the only one");
-        // It ends only if each lies where its number, counted from the other end, tells.
-        x = of("house beds 3 sounds 2 acts 1;sleeper bed 0 dream 0;sleeper bed 1 dream 0;sleeper bed 2 dream 0;turns 1;opens 1 sound 0;"
-            + "answers:if last = 1 and who = 2 and far = 1 then 5 else if last = 2 and who = 0 and far = 2 then 5 else 0 end end;"
-            + "says:if who = 0 then 1 else 0 end;");
+        // 0, 1 and 3: only by 3 1 0 lie 0 and 1 2 from each other, 1 and 2 1.
+        x = of(chain(3, new int[] {3, 1, 0}, new int[] {0, 1, 3}));
         due("placing(0)", x.placing(0), 2);
-        due("placing(10)", x.placing(10), 0);
+        due("placing(10)", x.placing(10), 3);
         due("placing(11)", x.placing(11), 1);
-        due("placing(12)", x.placing(12), 2);
-        x.change(0, 2);
+        due("placing(12)", x.placing(12), 0);
+        sentence("26", "one BEAT fewer is fewer");
+        // In order 1, then 2; 2 next to 0: at once.
+        x = of("house beds 3 sounds 3 acts 1;sleeper bed 0 dream 0;sleeper bed 1 dream 0;sleeper bed 2 dream 0;turns 2;says:who;"
+            + "answers:if who = 2 then 11 - far * 2 else 10 - far * 2 end;");
+        due("goes(1)", x.goes(1), 2);
+        due("placing(0)", x.placing(0), 1);
         due("placing(10)", x.placing(10), 0);
+        due("placing(11)", x.placing(11), 2);
+        due("placing(12)", x.placing(12), 1);
+        anyOrder();
+    }
+
+    /** Sleepers who answer one another in turn, but only if they lie as far as in an order; the last one ends it. */
+    static String chain(int sleepers, int[] order, int[] beds) {
+        StringBuilder t = new StringBuilder("house beds 6 sounds 2 acts 1;");
+        for (int s = 0; s < sleepers; s++) {
+            t.append("sleeper bed " + beds[s] + " dream 0;");
+        }
+        t.append("turns 1;says:if who = " + (sleepers - 1) + " then 1 else 0 end;answers:");
+        for (int s = 1; s < sleepers; s++) {
+            t.append("if last = " + (s - 1) + " and who = " + s + " and far = " + Math.abs(order[s] - order[s - 1]) + " then 1 else ");
+        }
+        t.append("0").append(" end".repeat(sleepers - 1));
+        return t.append(";").toString();
+    }
+
+    static void anyOrder() {
+        sentence("26", "SLEEPERS in any order in the BEDS in which they are");
+        int[] beds = {0, 1, 3, 5};
+        for (int at = 0; at < 256; at++) {
+            int[] order = {beds[at & 3], beds[at >> 2 & 3], beds[at >> 4 & 3], beds[at >> 6 & 3]};
+            if (apart(order)) {
+                SnorePlay x = of(chain(4, order, beds));
+                int[] first = firstLike(order, beds);
+                due("placing(0)", x.placing(0), 3);
+                for (int s = 0; s < 4; s++) {
+                    due("placing(" + (10 + s) + ")", x.placing(10 + s), first[s]);
+                }
+            }
+        }
+    }
+
+    static boolean apart(int[] order) {
+        for (int i = 0; i < order.length; i++) {
+            for (int j = 0; j < i; j++) {
+                if (order[i] == order[j]) {
+                    return false;
+                }
+            }
+        }
+        return true;
+    }
+
+    /** The first order, bed by bed least first, in which neighbours in turn lie as far as in another one. */
+    static int[] firstLike(int[] order, int[] beds) {
+        for (int a : beds) {
+            for (int b : beds) {
+                for (int c : beds) {
+                    for (int d : beds) {
+                        int[] other = {a, b, c, d};
+                        boolean like = apart(other);
+                        for (int s = 1; s < 4; s++) {
+                            like = like && Math.abs(other[s] - other[s - 1]) == Math.abs(order[s] - order[s - 1]);
+                        }
+                        if (like) {
+                            return other;
+                        }
+                    }
+                }
+            }
+        }
+        return order;
     }
 
     static void fills() {
@@ -517,6 +605,15 @@ public final class AskedBoundariesTest extends Asking {
         for (int i = 0; i < 8; i++) {
             due("heardBy(0, " + i + ")", x.heardBy(0, i), i == 7 ? 1 : 0);
         }
+        SnorePlay y = of(GREATEST);
+        lay(y, 0, 1);
+        due("heardBy(0, 0)", y.heardBy(0, 0), 3);
+        y = of(GREATEST.replace("turns 1", "turns 0"));
+        lay(y, 0, 1, 2, 1);
+        due("heard(0)", y.heard(0), 9);
+        due("heardBy(0, 0)", y.heardBy(0, 0), 3);
+        due("heardBy(0, 1)", y.heardBy(0, 1), 0);
+        due("heardBy(0, 2)", y.heardBy(0, 2), 0);
         sentence("29", "NONE: not so many, there are none");
         due("heardBy(0, 8)", x.heardBy(0, 8), -1);
         due("heardBy(0, MAX)", x.heardBy(0, Integer.MAX_VALUE), -1);
@@ -551,6 +648,17 @@ public final class AskedBoundariesTest extends Asking {
         due("suspects(0, 0)", x.suspects(0, 0), 2);
         lay(x, 0, -1, -1, -1, -1, -1, -1, -1, -1);
         due("suspects(0, 7)", x.suspects(0, 7), 5);
+        SnorePlay y = of(GREATEST);
+        lay(y, 0, -1);
+        due("suspects(0, 0)", y.suspects(0, 0), 6);
+        sentence("30", "in some of these: not of those that another TRAY told of");
+        y = of("house beds 3 sounds 4 acts 1;sleeper bed 0 dream 0;sleeper bed 1 dream 0;sleeper bed 2 dream 0;turns 3;says:who;");
+        lay(y, 0, -1, -1);
+        due("suspects(0, 1)", y.suspects(0, 1), 7);
+        lay(y, 1, 1, -1);
+        due("suspects(1, 1)", y.suspects(1, 1), 5);
+        lay(y, 1, 2, -1);
+        due("suspects(1, 1)", y.suspects(1, 1), 3);
         sentence("30", "0: there are none");
         lay(x, 0, 2, 1);
         due("suspects(0, 0)", x.suspects(0, 0), 0);
@@ -663,14 +771,28 @@ public final class AskedBoundariesTest extends Asking {
         lay(y, 0, 3);
         due("hushes(0)", y.hushes(0), 1023);
         due("attempt(0)", y.attempt(0), 4);
+        y = of("house beds 4 sounds 3 acts 1;sleeper bed 0 dream 0;sleeper bed 1 dream 0;sleeper bed 2 dream 0;sleeper bed 3 dream 0;"
+            + "turns 2;answers:if who = 3 then 9 else if who = 2 then 3 else 7 - hush end end;says:if who = 1 then 1 else 0 end;");
+        lay(y, 0, 3);
+        due("attempt(0)", y.attempt(0), 4);
+        sentence("32", "the first of 0 and all SLEEPERS: the first of them, too");
+        y = of("house beds 3 sounds 2 acts 1;sleeper bed 0 dream 0;sleeper bed 1 dream 0;sleeper bed 2 dream 0;turns 1;opens 2 sound 0;"
+            + "answers:if who = 0 then 9 else 5 - hush end;says:0;");
+        lay(y, 0, 0);
+        due("attempt(0)", y.attempt(0), 1);
+        sentence("32", "asked again it is the same");
+        y = split(secondHalf, "if who = 2 then hush else 0 end");
+        for (int i = 0; i < 9; i++) {
+            due("attempt(0)", y.attempt(0), 0);
+        }
         sentence("32", "or nobody");
         // Left alone 5 and 5; woken 2, 4 of 1 and 6 of nobody.
         due("attempt(0)", split("if who = 2 then 100 else 4 - hush end", "if who = 2 and hush < 5 then 1 else 0 end").attempt(0), 0);
         // Left alone 7 and 3; woken 2, 4 of 1 and 6 of nobody.
         due("attempt(0)", split("if who = 2 then 100 else 4 - hush end", "if who = 2 and hush < 7 then 1 else 0 end").attempt(0), 3);
         sentence("32", "of these HUSHES: not of all");
-        // 2 snores by hushes 0 to 3 alone; of these its sound tells 3 and 1, waking it 2 and 2.
-        x = split("if who = 2 then 40 - hush * 10 else 2 - hush end", "if who = 2 and hush = 3 then 1 else 0 end");
+        // 2 snores by hushes 0 to 3 alone; of these its sound tells 1 and 3, waking it 2 and 2.
+        x = split("if who = 2 then 40 - hush * 10 else 2 - hush end", "if who = 2 and hush = 0 then 1 else 0 end");
         due("hushes(0)", x.hushes(0), 15);
         due("attempt(0)", x.attempt(0), 3);
         sentence("32", "NONE: there are none");
@@ -721,6 +843,7 @@ public final class AskedBoundariesTest extends Asking {
         sentence("33", "NONE: never");
         due("forces()", of(PAIR).forces(), -1);
         due("forces()", of(ROUND).forces(), -1);
+        due("forces()", of("house beds 2 sounds 2 acts 1;sleeper bed 0 dream 0;sleeper bed 1 dream 1;turns 1;opens 1 sound 0;").forces(), -1);
         due("forces()", still().forces(), -1);
         due("forces()", of(ALONE).forces(), -1);
         due("forces()", new SnorePlay().forces(), -1);

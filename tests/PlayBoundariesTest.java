@@ -133,13 +133,23 @@ public final class PlayBoundariesTest extends Asking {
         sentence("6", "if tells the one SUM, if the TRUTH holds, else the other one");
         due("if", lawOf("if 1=1 then 2 else 3 end"), 2);
         due("if", lawOf("if 1=2 then 2 else 3 end"), 3);
+        due("if", lawOf("1 + if 1=1 then 2 else 3 end"), 3);
+        due("if", lawOf("1 + if 1=2 then 2 else 3 end * 5 - 4"), 12);
+        due("if", lawOf("if if 1=1 then 2 else 3 end = 2 then if 1=2 then 4 else 5 end else 6 end"), 5);
         due("<", lawOf("if 1<1 then 2 else 3 end"), 3);
         due("<", lawOf("if 0<1 then 2 else 3 end"), 2);
         due(">", lawOf("if 1>1 then 2 else 3 end"), 3);
         due(">", lawOf("if 2>1 then 2 else 3 end"), 2);
+        due(">", lawOf("if 1>2 then 2 else 3 end"), 3);
+        due("<", lawOf("if 2<1 then 2 else 3 end"), 3);
         due("<", lawOf("if 0-1<0 then 2 else 3 end"), 2);
         due("not", lawOf("if not 1=2 then 2 else 3 end"), 2);
         due("not", lawOf("if not not 1=2 then 2 else 3 end"), 3);
+        due("not", lawOf("if not 1=1 then 2 else 3 end"), 3);
+        due("not", lawOf("if not 1<2 then 2 else 3 end"), 3);
+        due("not", lawOf("if not 2>1 then 2 else 3 end"), 3);
+        due("not", lawOf("if not [1=1 and 2=2] then 2 else 3 end"), 3);
+        due("not", lawOf("if not [1=1 or 2=2] then 2 else 3 end"), 3);
         String[] truth = {"1=2", "1=1"};
         for (int a = 0; a < 2; a++) {
             for (int b = 0; b < 2; b++) {
