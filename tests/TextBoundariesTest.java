@@ -155,6 +155,18 @@ public final class TextBoundariesTest extends Asking {
         feedText(x, PAIR);
         due("house(51)", x.house(51), 2);
         due("count(1)", x.count(1), 1);
+        cutShort(HEAD + "hush 1", "2;", 2, 35);
+        cutShort(HEAD + "says:who", "m;", 2, 37);
+        cutShort(HEAD + "says:1", "+1;", 2, 35);
+        cutShort(HEAD + "hush 100", "0;", 3, 34);
+        cutShort("house beds 1 sounds 1 acts 1", ";", 2, 28);
+        sentence("3", "a word or an N goes on to the 900th byte and no farther");
+        String filler = " ".repeat(900 - BEHIND_HEAD - 4);
+        faultOf(HEAD + filler + "hush", 2, 900);
+        faultOf(HEAD + filler + "lamp", 2, 896);
+        faultOf(HEAD + filler + "1000", 1, 896);
+        faultOf(HEAD + filler + " 100", 2, 897);
+        faultOf(HEAD + filler + "   ?", 1, 899);
         opened();
         withAFault();
         sentence("3", "how many LINES (house, too)");
@@ -162,6 +174,14 @@ public final class TextBoundariesTest extends Asking {
         linesOf(HEAD + "turns 0;", 2);
         linesOf(HEAD + "turns 0;turns 1;hush 1;hush 2;says:1;says:2;", 7);
         due("count(12)", of(HEAD + "turns 0;turns 1;").count(12), 3);
+    }
+
+    /** A text of which only the first part is read: what stands behind it on the tape doesn't count. */
+    static void cutShort(String read, String left, int kind, int place) {
+        SnorePlay x = new SnorePlay();
+        feedText(x, read + left);
+        due("house of " + read, x.house(read.length()), -30 - kind);
+        due("fault(1) of " + read, x.fault(1), place);
     }
 
     static void opened() {
