@@ -1007,7 +1007,7 @@ public final class SnorePlay {
         private static final int MOST_WITHIN = 6;
 
         private final Tokens tokens = new Tokens();
-        // No token makes more than one code, so a law can't be longer than the text.
+        // No token makes more codes than it has signs, so a law can't be longer than the text.
         private final int[] codes = new int[MOST_TEXT];
         private int size;
         private House draft = new House(0);
